@@ -184,6 +184,14 @@ public final class PromiseTests {
         clashOf("the same action twice", new int[] {1, 2, 1}, new int[] {1, 2, 1}, true);
         clashOf("one fact of many", new int[] {3, 12, 112}, new int[] {64, 128, 0}, true);
         clashOf("nothing at all", new int[] {0, 0, 0}, new int[] {255, 255, 255}, false);
+
+        PlanLayers x = new PlanLayers();
+        x.action(1, 2, 1);
+        x.action(1, 2, 1);
+        due("clash(0, 1)", x.clash(0, 1), true);
+        x.drop(1);
+        due("clash(0, 1) after drop", x.clash(0, 1), false);
+        due("clash(1, 0) after drop", x.clash(1, 0), false);
     }
 
     private static void fewest() {
@@ -337,6 +345,11 @@ public final class PromiseTests {
         due("begins(8, 1)", z.begins(8, 1), true);
         due("begins(8, 2)", z.begins(8, 2), false);
         due("begins(8, 4), on the long way", z.begins(8, 4), false);
+
+        PlanLayers dropped = seven();
+        due("begins(1, 6)", dropped.begins(1, 6), true);
+        dropped.drop(6);
+        due("begins(1, 6) after drop", dropped.begins(1, 6), false);
     }
 
     private static void advance() {
